@@ -129,13 +129,14 @@ public final class ActsTest {
         x.barn(30);
         x.tryout(1, 2, 3, 4, 5);
         x.tryout(1, 2, 6, 29, 5);
+        x.excuse(0, 1);
         x.excuse(1, 2);
         Check.plan(x, "hit 3");
         Check.law(x, "at 7 m=1");
         Check.feed(x, "hit 1");
         check.due("image()", x.image(), 2);
         x.excuse(1, 0);
-        x.excuse(0, 1);
+        x.excuse(0, 2);
         x.tryout(5, 5, 5, 5, 5);
         x.plan();
         Check.plan(x, "x");
@@ -144,7 +145,7 @@ public final class ActsTest {
         check.due("undo()", x.undo(), 2);
         int[] counts = {30, 2, 1, 1, 5};
         for (int what = 0; what < 5; what++) check.due("count(" + what + ")", x.count(what), counts[what]);
-        check.due("excused", x.of(0, 5), 0);
+        check.due("excused", x.of(0, 5), 1);
         check.due("excused", x.of(1, 5), 2);
         check.due("the tape", x.plan(), 1);
         check.due("as it was", x.told(1, 0), 1);

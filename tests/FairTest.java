@@ -39,6 +39,9 @@ public final class FairTest {
         x.barn(100);
         check.due("far in a large barn", x.fair(0, 99, 90, 1, 1), 42);
         check.due("place 99", x.fair(0, 99, 100, 0, 1), 11);
+        // With a seventh try there would be a way.
+        x = new RodDips();
+        check.due("no seventh try", x.fair(2, 5, 90, 3, 23), -5);
     }
 
     private static RodDips tried() {
@@ -137,6 +140,7 @@ public final class FairTest {
         check.due("lean -100", x.rod(1, -100, 0), -2);
         check.due("lean 100", x.rod(1, 100, 0), -2);
         check.due("hold -1", x.rod(1, 0, -1), -2);
+        check.due("hold 999", x.rod(9, 99, 999), -5);
         check.due("hold 1000", x.rod(1, 0, 1000), -2);
     }
 

@@ -89,6 +89,9 @@ public final class LawsTest {
             for (int i = 0; i < 3; i++) check.due("says(" + law + ", " + i + ")", x.says(law, i), want[law][i]);
         }
         check.due("law 4", x.says(4, 0), -1);
+        Check.law(x, "at 1 k=9;at 1 k=9;at 1 k=9;at 1 k=9;at 1 k=9;at 1 k=9;at 2 k=4;at 3 k<9");
+        check.due("the last of eight", x.says(4, 0), 3);
+        check.due("the one before", x.says(4, 2), 2);
         check.due("law -1", x.says(-1, 0), -1);
         check.due("try 3", x.says(0, 3), -1);
         check.due("try -1", x.says(0, -1), -1);
@@ -128,8 +131,9 @@ public final class LawsTest {
         x.tryout(1, 6, 0, 0, 5);
         x.tryout(0, 5, 0, 0, 6);
         Check.law(x, "at 1 l=99;at 2 l>99;at 3 l=3;at 4 l=4");
-        int[] want = {2, 2, 1, 3, 4};
-        for (int i = 0; i < 5; i++) check.due("says of " + i, x.says(0, i), want[i]);
+        x.tryout(0, 4, 0, 0, 7);
+        int[] want = {2, 2, 1, 3, 4, -5};
+        for (int i = 0; i < 6; i++) check.due("says of " + i, x.says(0, i), want[i]);
     }
 
     private static void had() {
@@ -138,6 +142,7 @@ public final class LawsTest {
         check.due("no law", x.fits(0, 0), -1);
         check.due("no law", x.fits(0, 1), -1);
         check.due("no law lets", x.let(0), 0);
+        check.due("a fault", Check.law(x, "near 9;x"), -17);
         Check.law(x, "at 5 m=0;by 0 m=1;near 4;near 1");
         Check.law(x, "off 3 d=3");
         Check.law(x, "at 0 m<9");

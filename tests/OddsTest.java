@@ -177,6 +177,10 @@ public final class OddsTest {
         check.due("of counted ones", x.fixed(1, 2), 4);
         check.due("of one", x.fixed(2, 1), 8);
         check.due("of none", x.fixed(0, 0), -5);
+        add(x, 3, 1, 9);
+        check.due("the place 1", x.fixed(0, 3), 1);
+        add(x, 4, 9, 0);
+        check.due("the last place", x.fixed(0, 4), 9);
         check.due("man 6", x.fixed(0, 6), -1);
         check.due("man -1", x.fixed(0, -1), -1);
         check.due("plan 3", x.fixed(3, 0), -1);
@@ -200,7 +204,9 @@ public final class OddsTest {
         check.due("of all", x.beats(0), 0b000001);
         check.due("but for one", x.beats(1), 0b000101);
         check.due("but for some", x.beats(2), 0b000001);
-        check.due("plan 3", x.beats(3), -1);
+        Check.plan(x, "take m=3;take t=3");
+        check.due("not the first man", x.beats(3), 0b000100);
+        check.due("plan 4", x.beats(4), -1);
         check.due("plan -1", x.beats(-1), -1);
     }
 
@@ -245,9 +251,11 @@ public final class OddsTest {
         check.due("never: of several the least", x.afterwards(0, 2), 0);
         check.due("by nine at last", x.afterwards(0, 4), 9);
         check.due("nine of them", x.afterwards(0, 3), 1);
+        add(x, 5, 9, 19);
+        check.due("by ten it would be less", x.afterwards(0, 5), 0);
         check.due("of one", x.afterwards(1, 0), 2);
         check.due("of none", x.afterwards(1, 2), -5);
-        check.due("man 5", x.afterwards(0, 5), -5);
+        check.due("his are not counted", x.afterwards(1, 5), -5);
         add(x, 3, 10, 9);
         check.due("ten of them", x.afterwards(0, 3), -5);
         check.due("man 6", x.afterwards(0, 6), -1);

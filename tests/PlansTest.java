@@ -44,6 +44,11 @@ public final class PlansTest {
         fault("hit 1 ", 5);
         fault("take m=012", 8);
         fault("take m=123", 9);
+        fault("hit :", 4);
+        fault("hit 1:", 5);
+        fault("hit /", 4);
+        fault("hit 1/", 5);
+        fault("take m=:", 7);
     }
 
     private static void faults() {
@@ -154,7 +159,28 @@ public final class PlansTest {
         check.due("what -1", x.told(0, -1), -1);
         check.due("what 4", x.told(0, 4), -1);
         check.due("plan -1", x.told(-1, 0), -1);
+        eightClauses();
+        afterFaults();
         check.due("plan 4", x.told(4, 0), -1);
+    }
+
+    private static void eightClauses() {
+        RodDips x = tried();
+        Check.plan(x, "take t=0;take t=1;take t=2;take t=3;take t=4;take t=5;take t=6;drop d=3");
+        Check.plan(x, "drop t=0;drop t=1;drop t=2;drop t=3;take t=4;take t=4;take t=4;take t=5");
+        check.due("the last drops", x.told(0, 2), 0b1001111);
+        check.due("the last takes", x.told(1, 2), 0b0110000);
+    }
+
+    private static void afterFaults() {
+        RodDips x = tried();
+        for (int i = 0; i < 3; i++) {
+            check.due("a fault late", Check.plan(x, "hit 7;need 5;take m=1;drop " + Check.repeated("!!!!!m=1&", 10) + "y"), -10 - 117);
+        }
+        check.due("nothing of it stays", Check.plan(x, "drop !!!!!m=1&!!!!!m=1&!!!!!m=1&!!!!!m=1|!!!!!m=1"), 0);
+        check.due("hit", x.told(0, 0), 0);
+        check.due("need", x.told(0, 1), 1);
+        check.due("counted", x.told(0, 2), 0b0011000);
     }
 
     private static void counted(String e, int bits) {
@@ -203,7 +229,9 @@ public final class PlansTest {
         check.due("need 1", x.passes(1), 0b111);
         check.due("need 0 of none", x.passes(2), 0b111111);
         check.due("only of counted ones", x.passes(3), 0b001);
-        check.due("plan 4", x.passes(4), -1);
+        Check.plan(x, "take m=1");
+        check.due("not the first man", x.passes(4), 0b010);
+        check.due("plan 5", x.passes(5), -1);
         check.due("plan -1", x.passes(-1), -1);
     }
 }

@@ -156,11 +156,16 @@ public final class RodDips {
         if (by == null || !isMan(man)) return NONE;
         int set = countedBits(by) & bitsOfMan(man);
         if (set == 0) return NOTHING;
-        int least = 0;
+        int chosen = 0;
+        int least = sumOfNears(set, 0);
         for (int place = 1; place < places; place++) {
-            if (sumOfNears(set, place) < sumOfNears(set, least)) least = place;
+            int sum = sumOfNears(set, place);
+            if (sum < least) {
+                least = sum;
+                chosen = place;
+            }
         }
-        return least;
+        return chosen;
     }
 
     public int beats(int plan) {
@@ -181,11 +186,16 @@ public final class RodDips {
         if (by == null) return NONE;
         int counted = countedBits(by);
         if (counted == 0) return NOTHING;
-        int most = 0;
+        int chosen = 0;
+        int most = hitsBySaying(counted, by.hit, 0);
         for (int place = 1; place < places; place++) {
-            if (hitsBySaying(counted, by.hit, place) > hitsBySaying(counted, by.hit, most)) most = place;
+            int hits = hitsBySaying(counted, by.hit, place);
+            if (hits > most) {
+                most = hits;
+                chosen = place;
+            }
         }
-        return most;
+        return chosen;
     }
 
     public int afterwards(int plan, int man) {
@@ -902,7 +912,6 @@ public final class RodDips {
             hit = 0;
             need = 1;
             near = 0;
-            Arrays.fill(end, 0);
         }
 
         boolean isTold(int first) {
