@@ -33,7 +33,7 @@ public final class LawsTest {
     private static void law() {
         sound("near 0");
         sound("at 0 m=1");
-        sound("by 10 !p<3|l=100".substring(0, 15));
+        sound("by 10 !p<3|l=10");
         sound("off 99 (k=1&d=2);near 99;at 1 m=1");
         sound("at 1 !!!!!p=1");
         sound(Check.repeated("near 1;", 7) + "near 2");
@@ -171,5 +171,10 @@ public final class LawsTest {
         check.due("let(0)", x.let(0), 7);
         check.due("let(32)", x.let(32), -2);
         check.due("let(MIN)", x.let(Integer.MIN_VALUE), -2);
+        Check.law(x, "near 9;near 7;near 0;x");
+        Check.law(x, "at 5 k=0");
+        check.due("near without", x.fits(3, 31), 1);
+        Check.law(x, "near 9;at 5 k=0;near 1");
+        check.due("the last near", x.fits(4, 31), 3);
     }
 }
