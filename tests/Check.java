@@ -13,6 +13,20 @@ final class Check {
         System.out.println(promise + ": " + call + " answered " + got + ", due is " + want);
     }
 
+    void dueText(String what, String got, String want) {
+        if (got.equals(want)) return;
+        wrong++;
+        System.out.println(promise + ": " + what + " is " + got + ", due is " + want);
+    }
+
+    void dueNot(String call, long got, long... none) {
+        for (long one : none) {
+            if (got != one) continue;
+            wrong++;
+            System.out.println(promise + ": " + call + " answered " + got + ", which is not due");
+        }
+    }
+
     /** Both parts of a fraction. */
     void dueOf(String call, long above, long below, long wantAbove, long wantBelow) {
         due(call + " above", above, wantAbove);
@@ -26,6 +40,26 @@ final class Check {
 
     static void feed(RodDips x, String text) {
         for (int i = 0; i < text.length(); i++) x.feed(text.charAt(i), 1);
+    }
+
+    /** The same with as few calls as can be. */
+    static void feedWide(RodDips x, String text) {
+        for (int from = 0; from < text.length(); from += 8) {
+            int to = Math.min(text.length(), from + 8);
+            long w = 0;
+            for (int i = from; i < to; i++) w = w << 8 | text.charAt(i);
+            x.feed(w, to - from);
+        }
+    }
+
+    static int planWide(RodDips x, String text) {
+        feedWide(x, text);
+        return x.plan();
+    }
+
+    static int lawWide(RodDips x, String text) {
+        feedWide(x, text);
+        return x.law();
     }
 
     static int plan(RodDips x, String text) {

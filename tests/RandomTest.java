@@ -11,6 +11,7 @@ public final class RandomTest {
     private final int manSpread;
     private final int triesLikely;
     private String waiting = "";
+    private int calls = 0;
 
     private RandomTest(Check check, int run) {
         this.check = check;
@@ -30,13 +31,12 @@ public final class RandomTest {
     }
 
     private void play() {
-        int calls = 0;
         if (random.nextInt(5) > 0) {
             int n = random.nextBoolean() ? 2 + random.nextInt(99) : 2 + random.nextInt(12);
-            check.due("barn(" + n + ")", x.barn(n), model.barn(n));
-            calls++;
+            due("barn(" + n + ")", x.barn(n), model.barn(n));
         }
-        for (; calls < CALLS; calls++) {
+        // A step makes two calls at most.
+        while (calls < CALLS - 1) {
             int which = random.nextInt(10);
             if (!waiting.isEmpty()) feedWaiting();
             else if (which < triesLikely) change();
@@ -81,6 +81,7 @@ public final class RandomTest {
     }
 
     private void due(String call, long got, long want) {
+        calls++;
         check.due(call, got, want);
     }
 
