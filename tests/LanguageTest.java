@@ -1,3 +1,4 @@
+import java.io.DataInputStream;
 import java.io.IOException;
 import java.lang.reflect.Field;
 import java.lang.reflect.Method;
@@ -22,11 +23,17 @@ public final class LanguageTest {
         "fair(int,int,int,int,int)int", "excuses(int,int,int,int)int", "field(int,int,int)long", "holes(int,int)int",
         "rod(int,int,int)int", "papers(int,int,int)int", "act(int,int,int)int", "trace(int)int", "as(int,int)int",
         "image()int", "undo()int", "count(int)int"};
+    /** What the class may use of the library, where it uses any: more of LANGUAGE.md's rule 4 goes in here when it does. */
+    private static final String[] LIBRARY = {
+        "java/lang/Object.<init>()V", "java/lang/String.length()I", "java/lang/String.charAt(I)C", "java/lang/String.isEmpty()Z",
+        "java/lang/String.indexOf(I)I", "java/lang/Integer.bitCount(I)I", "java/lang/Math.abs(I)I", "java/lang/Math.max(II)I",
+        "java/lang/Math.min(II)I", "java/lang/System.arraycopy(Ljava/lang/Object;ILjava/lang/Object;II)V", "java/util/Arrays.fill([JJ)V"};
     private static int wrong = 0;
 
     public static void main(String[] args) throws IOException {
         face();
         classes();
+        library();
         String text = withoutComments(Files.readString(Path.of(SOURCE)));
         words(text);
         lengths(text);
@@ -78,6 +85,45 @@ public final class LanguageTest {
         }
         long fields = Arrays.stream(RodDips.class.getDeclaredFields()).filter(f -> !Modifier.isStatic(f.getModifiers())).count();
         rule(fields <= 20, "the class has some twenty fields, not " + fields);
+    }
+
+    private static void library() throws IOException {
+        List<Class<?>> all = new ArrayList<>(List.of(RodDips.class));
+        all.addAll(Arrays.asList(RodDips.class.getDeclaredClasses()));
+        for (Class<?> one : all) {
+            for (String used : usedBy(one)) {
+                boolean own = used.startsWith("RodDips") || used.startsWith("[LRodDips");
+                rule(own || Arrays.asList(LIBRARY).contains(used), one + " uses no " + used);
+            }
+        }
+    }
+
+    /** The methods and fields that stand in the class file's table of constants. */
+    private static TreeSet<String> usedBy(Class<?> one) throws IOException {
+        TreeSet<String> used = new TreeSet<>();
+        try (DataInputStream in = new DataInputStream(one.getResourceAsStream(one.getName() + ".class"))) {
+            in.skipBytes(8);
+            int size = in.readUnsignedShort();
+            int[] tags = new int[size], first = new int[size], second = new int[size];
+            String[] texts = new String[size];
+            for (int i = 1; i < size; i++) {
+                tags[i] = in.readUnsignedByte();
+                switch (tags[i]) {
+                    case 1: texts[i] = in.readUTF(); break;
+                    case 3: case 4: in.skipBytes(4); break;
+                    case 5: case 6: in.skipBytes(8); i++; break;
+                    case 7: case 8: first[i] = in.readUnsignedShort(); break;
+                    case 9: case 10: case 11: case 12: first[i] = in.readUnsignedShort(); second[i] = in.readUnsignedShort(); break;
+                    default: throw new IOException("a constant of tag " + tags[i] + ", as of a lambda or a text joined by +");
+                }
+            }
+            for (int i = 1; i < size; i++) {
+                if (tags[i] < 9 || tags[i] > 11) continue;
+                int named = second[i];
+                used.add(texts[first[first[i]]] + "." + texts[first[named]] + texts[second[named]]);
+            }
+        }
+        return used;
     }
 
     private static String withoutComments(String text) {

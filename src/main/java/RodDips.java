@@ -992,8 +992,13 @@ public final class RodDips {
         }
 
         private static boolean testHolds(int test, Try one, int before) {
-            int sign = (test >> 7 & 3) - 1;
-            return Integer.compare(one.valueOf(test >> 9, before), test & 127) == sign;
+            int value = one.valueOf(test >> 9, before);
+            int n = test & 127;
+            switch (test >> 7 & 3) {
+                case 0: return value < n;
+                case 1: return value == n;
+                default: return value > n;
+            }
         }
     }
 
